@@ -11,6 +11,7 @@ public final class WellPumps {
     private static final int DRAWS = 6;
     private static final int BREAKS = 6;
     private static final int TOPS = 7;
+    private static final int COSTS = 10;
     private static final int LEVELS = 8;
     /** Numbers that a farm may want, and amounts of rain: 0 to 3 both. */
     private static final int NUMBERS = 4;
@@ -95,7 +96,7 @@ public final class WellPumps {
         needNumber(one, 0, 99);
         needNumber(two, 0, 99);
         needNumber(three, 0, 99);
-        needNumber(cost, 0, 9);
+        needNumber(cost, 0, COSTS - 1);
         needRoom(now.farms, FARMS);
         return now.addFarm(one, two, three, cost);
     }
@@ -281,12 +282,14 @@ public final class WellPumps {
         oneYear.open(now);
         int own = now.costs[farm];
         int number = choice.answerAt(farm, level);
-        for (int away = 1; away <= 9; away++) {
-            if (own - away >= 0 && answerWithCost(farm, level, own - away) != number) {
-                return own - away;
-            }
-            if (own + away <= 9 && answerWithCost(farm, level, own + away) != number) {
-                return own + away;
+        // the lesser of two as near comes first
+        for (int turn = 2; turn < 2 * COSTS; turn++) {
+            int cost = turn % 2 == 0 ? own - turn / 2 : own + turn / 2;
+            if (cost >= 0 && cost < COSTS) {
+                oneYear.priceWith(now, now.inForce, farm, cost);
+                if (choice.answerAt(farm, level) != number) {
+                    return cost;
+                }
             }
         }
         return NONE;
@@ -478,11 +481,6 @@ public final class WellPumps {
         return levels;
     }
 
-    private int answerWithCost(int farm, int level, int cost) {
-        oneYear.priceWith(now, now.inForce, farm, cost);
-        return choice.answerAt(farm, level);
-    }
-
     /** The owner stands under rule 0, whichever is in force. */
     private void ownAll() {
         oneYear.open(now);
@@ -560,6 +558,10 @@ public final class WellPumps {
                 length++;
             }
         }
+
+        boolean isIn(int index, char first, char last) {
+            return index >= 0 && index < length && bytes[index] >= first && bytes[index] <= last;
+        }
     }
 
     /** What a text is made of. */
@@ -600,8 +602,9 @@ public final class WellPumps {
     }
 
     /**
-     * Reads the text of a draw, once for each top. What a condition comes to is held as 48 bits, one for each
-     * farm, broken or not, and level, so that a text is worked out while it is read and need not be kept.
+     * Reads the text of a draw: into things first, then once for each top by lines. What a condition comes to is
+     * held as 48 bits, one for each farm, broken or not, and level, so that a text is worked out while it is read
+     * and need not be kept.
      */
     private static final class Reader {
         private static final int LINES = 10;
@@ -610,38 +613,88 @@ public final class WellPumps {
         private static final long WHERE_BROKEN = 0xff00ff00ff00L;
 
         private final Tape tape;
-        /** For each top, from 1 on: where the number told has its bit of 1, and where that of 2. */
-        private final long[] tells = new long[TOPS * 2];
+        /** Each thing, where it begins, and what number it is; an END is the last. */
+        private final Thing[] things = new Thing[TAPE_BYTES + 1];
+        private final int[] begins = new int[TAPE_BYTES + 1];
+        private final int[] numbers = new int[TAPE_BYTES + 1];
+        private int at;
+        private Thing thing = Thing.END;
+        private int top;
+        private int wrong;
         /** A sum: a number, how often the level, how often the farm. */
         private final int[] left = new int[3];
         private final int[] right = new int[3];
-        private int at;
-        private int begin;
-        private Thing thing = Thing.END;
-        private int value;
-        private int top;
-        private int wrong;
+        /** For each top, from 1 on: where the number told has its bit of 1, and where that of 2. */
+        final long[] tells = new long[TOPS * 2];
 
         Reader(Tape tape) {
             this.tape = tape;
-        }
-
-        /** The first wrong byte, or NONE. */
-        int read() {
-            wrong = NONE;
-            for (top = 1; top <= TOPS && wrong == NONE; top++) {
-                readLines();
-            }
-            return wrong;
         }
 
         static int place(int farm, int level, int broken) {
             return (farm * 2 + broken) * LEVELS + level;
         }
 
+        /** The first wrong byte, or NONE. */
+        int read() {
+            partText();
+            wrong = NONE;
+            for (top = 1; top <= TOPS && wrong == NONE; top++) {
+                at = 0;
+                thing = things[0];
+                readLines();
+            }
+            return wrong;
+        }
+
+        private void partText() {
+            int count = 0;
+            int behind = 0;
+            while (behind < tape.length) {
+                int begin = behind;
+                behind = behindThing(begin);
+                if (tape.bytes[begin] != ' ') {
+                    begins[count] = begin;
+                    numbers[count] = numberOf(begin, behind);
+                    things[count] = thingOf(begin, behind);
+                    count++;
+                }
+            }
+            begins[count] = tape.length;
+            things[count] = Thing.END;
+        }
+
+        private int behindThing(int begin) {
+            int behind = begin + 1;
+            if (tape.isIn(begin, 'a', 'z')) {
+                while (tape.isIn(behind, 'a', 'z')) {
+                    behind++;
+                }
+            } else if (tape.isIn(begin, '0', '9')) {
+                while (tape.isIn(behind, '0', '9')) {
+                    behind++;
+                }
+            }
+            return behind;
+        }
+
+        /** Of one or two digits; others are no number. */
+        private int numberOf(int begin, int behind) {
+            int number = 0;
+            for (int index = begin; index < behind; index++) {
+                number = number * 10 + tape.bytes[index] - '0';
+            }
+            return number;
+        }
+
+        private Thing thingOf(int begin, int behind) {
+            if (tape.isIn(begin, '0', '9')) {
+                return behind - begin > 2 ? Thing.WRONG : Thing.NUMBER;
+            }
+            return Thing.spelledBy(tape, begin, behind);
+        }
+
         private void readLines() {
-            at = 0;
-            step();
             int index = (top - 1) * 2;
             tells[index] = 0;
             tells[index + 1] = 0;
@@ -649,7 +702,7 @@ public final class WellPumps {
             boolean more = thing != Thing.END;
             for (int line = 0; more && line < LINES; line++) {
                 open = readLine(open);
-                more = wrong == NONE && thing == Thing.SEMICOLON;
+                more = thing == Thing.SEMICOLON;
                 if (more) {
                     step();
                 }
@@ -659,14 +712,14 @@ public final class WellPumps {
             }
         }
 
-        /** Where no line up to this one holds. */
+        /** Tells where no line up to this one holds. */
         private long readLine(long open) {
             take(Thing.DRAW);
-            int number = value;
-            if (thing != Thing.NUMBER || number >= NUMBERS) {
+            int number = numbers[at];
+            if (number >= NUMBERS) {
                 refuse();
             }
-            step();
+            take(Thing.NUMBER);
             long holds = open;
             if (thing == Thing.IF) {
                 step();
@@ -684,7 +737,7 @@ public final class WellPumps {
 
         private long readCondition(int depth) {
             long holds = readAll(depth);
-            for (int times = 0; thing == Thing.OR && times < TAPE_BYTES; times++) {
+            while (thing == Thing.OR) {
                 step();
                 holds |= readAll(depth);
             }
@@ -693,7 +746,7 @@ public final class WellPumps {
 
         private long readAll(int depth) {
             long holds = readAtom(depth);
-            for (int times = 0; thing == Thing.AND && times < TAPE_BYTES; times++) {
+            while (thing == Thing.AND) {
                 step();
                 holds &= readAtom(depth);
             }
@@ -725,10 +778,7 @@ public final class WellPumps {
             }
             readSum(left);
             boolean less = thing == Thing.LESS;
-            if (!less && thing != Thing.MORE) {
-                refuse();
-            }
-            step();
+            take(less ? Thing.LESS : Thing.MORE);
             readSum(right);
             return less ? whereLess(left, right) : whereLess(right, left);
         }
@@ -736,7 +786,7 @@ public final class WellPumps {
         private void readSum(int[] sum) {
             Arrays.fill(sum, 0);
             addTo(sum);
-            for (int times = 0; thing == Thing.PLUS && times < TAPE_BYTES; times++) {
+            while (thing == Thing.PLUS) {
                 step();
                 addTo(sum);
             }
@@ -744,7 +794,7 @@ public final class WellPumps {
 
         private void addTo(int[] sum) {
             if (thing == Thing.NUMBER) {
-                sum[0] += value;
+                sum[0] += numbers[at];
             } else if (thing == Thing.TOP) {
                 sum[0] += top;
             } else if (thing == Thing.LEVEL) {
@@ -777,49 +827,19 @@ public final class WellPumps {
             step();
         }
 
-        /** After a first wrong thing all is END: so every loop of the reading ends, and no other place is told. */
+        /** Behind the first wrong thing all is END: so nothing else is taken, and no later place is told. */
         private void refuse() {
             if (wrong == NONE) {
-                wrong = begin;
+                wrong = begins[at];
             }
             thing = Thing.END;
         }
 
         private void step() {
-            if (wrong != NONE) {
-                return;
-            }
-            while (at < tape.length && tape.bytes[at] == ' ') {
+            if (thing != Thing.END && at < TAPE_BYTES) {
                 at++;
+                thing = things[at];
             }
-            begin = at;
-            if (at >= tape.length) {
-                thing = Thing.END;
-            } else if (isIn(at, '0', '9')) {
-                stepNumber();
-            } else {
-                at++;
-                if (isIn(begin, 'a', 'z')) {
-                    while (isIn(at, 'a', 'z')) {
-                        at++;
-                    }
-                }
-                thing = Thing.spelledBy(tape, begin, at);
-            }
-        }
-
-        private void stepNumber() {
-            value = 0;
-            while (isIn(at, '0', '9')) {
-                // of more than two digits the value is of no use, and need not fit
-                value = value * 10 + tape.bytes[at] - '0';
-                at++;
-            }
-            thing = at - begin > 2 ? Thing.WRONG : Thing.NUMBER;
-        }
-
-        private boolean isIn(int index, char first, char last) {
-            return index < tape.length && tape.bytes[index] >= first && tape.bytes[index] <= last;
         }
     }
 
@@ -1363,9 +1383,12 @@ public final class WellPumps {
 
         private int bestAt(int level, long scale) {
             int best = 0;
+            long most = valueOf(level, 0, scale);
             for (int way = 1; way < ways; way++) {
-                if (valueOf(level, way, scale) > valueOf(level, best, scale)) {
+                long value = valueOf(level, way, scale);
+                if (value > most) {
                     best = way;
+                    most = value;
                 }
             }
             return best;
