@@ -650,35 +650,35 @@ public final class WellPumps {
         private void partText() {
             int count = 0;
             int behind = 0;
-            while (behind < tape.length) {
+            for (int turn = 0; behind < tape.length && turn < TAPE_BYTES; turn++) {
                 int begin = behind;
                 behind = behindThing(begin);
                 if (tape.bytes[begin] != ' ') {
-                    begins[count] = begin;
-                    numbers[count] = numberOf(begin, behind);
                     things[count] = thingOf(begin, behind);
+                    numbers[count] = things[count] == Thing.NUMBER ? numberOf(begin, behind) : 0;
+                    begins[count] = begin;
                     count++;
                 }
             }
-            begins[count] = tape.length;
             things[count] = Thing.END;
+            numbers[count] = 0;
+            begins[count] = tape.length;
         }
 
         private int behindThing(int begin) {
             int behind = begin + 1;
             if (tape.isIn(begin, 'a', 'z')) {
-                while (tape.isIn(behind, 'a', 'z')) {
+                while (behind < tape.length && tape.isIn(behind, 'a', 'z')) {
                     behind++;
                 }
             } else if (tape.isIn(begin, '0', '9')) {
-                while (tape.isIn(behind, '0', '9')) {
+                while (behind < tape.length && tape.isIn(behind, '0', '9')) {
                     behind++;
                 }
             }
             return behind;
         }
 
-        /** Of one or two digits; others are no number. */
         private int numberOf(int begin, int behind) {
             int number = 0;
             for (int index = begin; index < behind; index++) {
@@ -737,7 +737,7 @@ public final class WellPumps {
 
         private long readCondition(int depth) {
             long holds = readAll(depth);
-            while (thing == Thing.OR) {
+            for (int times = 0; thing == Thing.OR && times < TAPE_BYTES; times++) {
                 step();
                 holds |= readAll(depth);
             }
@@ -746,7 +746,7 @@ public final class WellPumps {
 
         private long readAll(int depth) {
             long holds = readAtom(depth);
-            while (thing == Thing.AND) {
+            for (int times = 0; thing == Thing.AND && times < TAPE_BYTES; times++) {
                 step();
                 holds &= readAtom(depth);
             }
@@ -786,7 +786,7 @@ public final class WellPumps {
         private void readSum(int[] sum) {
             Arrays.fill(sum, 0);
             addTo(sum);
-            while (thing == Thing.PLUS) {
+            for (int times = 0; thing == Thing.PLUS && times < TAPE_BYTES; times++) {
                 step();
                 addTo(sum);
             }
@@ -1366,7 +1366,7 @@ public final class WellPumps {
             }
         }
 
-        /** Each level takes the way worth the most, the least of them; one that is only as good waits for the last turn. */
+        /** Each level takes the way worth the most; one that is only as good, but less, waits for the last turn. */
         private boolean improve(boolean evenIfAsGood) {
             boolean better = false;
             for (int level = 0; level <= year.top; level++) {
