@@ -49,7 +49,11 @@ public final class ModelTest {
     }
 
     private void play() {
-        build();
+        if (random.nextInt(6) == 0) {
+            buildGreatest();
+        } else {
+            build();
+        }
         int asked = 40 + random.nextInt(60);
         for (int turn = 0; turn < asked && !isWrong; turn++) {
             Method call = CALLS[random.nextInt(CALLS.length)];
@@ -85,6 +89,21 @@ public final class ModelTest {
             ask("rule", random.nextInt(8), random.nextInt(4), random.nextInt(4), random.nextInt(100), random.nextInt(5));
         }
         ask("force", random.nextInt(rules + 1));
+    }
+
+    /** Numbers that make the greatest fractions, so that they are seen to fit. */
+    private void buildGreatest() {
+        ask("well", 7, random.nextInt(9) - 1);
+        ask("rain", random.nextInt(3), 1, random.nextInt(2), 0);
+        ask("years", 4, 5);
+        for (int farm = 0; farm < 3; farm++) {
+            ask("farm", 98 + random.nextInt(2), 97 + random.nextInt(3), 99, random.nextInt(2) * 9);
+            fill("draw");
+            ask("draw");
+            ask("by", farm, random.nextInt(farm + 2) - 1);
+        }
+        ask("rule", 9, random.nextInt(2), 0, 99, 3 + random.nextInt(2));
+        ask("force", random.nextInt(2));
     }
 
     // ---- what is asked ----
