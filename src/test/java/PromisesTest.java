@@ -84,11 +84,15 @@ public final class PromisesTest {
      * but for draw 0, by which farm 0 takes all once it is broken; draw 1 answers nothing.
      */
     private static WellPumps answered() {
+        return answered(14);
+    }
+
+    private static WellPumps answered(int two) {
         WellPumps x = new WellPumps();
         x.well(3, NONE);
         x.rain(0, 0, 1, 0);
         x.farm(10, 10, 10, 0);
-        x.farm(10, 14, 14, 0);
+        x.farm(10, two, two, 0);
         Check.draw(x, "draw 3 if broken and farm < 1; draw 1 if not broken");
         Check.draw(x, "draw 1");
         x.by(0, 0);
@@ -355,6 +359,9 @@ public final class PromisesTest {
         Check.due("farm 1", told("draw 1 if farm < 2; draw 3", 4, 1, 4, false), 1);
         Check.due("sums", told("draw 1 if 2 + level + 3 > top + top + 99", 1, 0, 1, false), 0);
         Check.due("sums", told("draw 1 if 2 + level + 97 > top + farm + 97", 1, 0, 0, false), 1);
+        Check.due("two digits", told("draw 1 if level + 8 > 11", 4, 0, 4, false), 1);
+        Check.due("two digits", told("draw 1 if level + 8 > 11", 4, 0, 3, false), 0);
+        Check.due("two digits", told("draw 1 if 9 + 9 + 9 + level > 30 and 99 > 98", 4, 0, 4, false), 1);
         Check.due("equal is not less", told("draw 1 if level < 2", 4, 0, 2, false), 0);
         Check.due("equal is not more", told("draw 1 if level > 2", 4, 0, 2, false), 0);
         Check.due("and goes ahead of or", told("draw 1 if 0 < 1 or 0 < 1 and 1 < 0", 4, 0, 2, false), 1);
@@ -421,6 +428,8 @@ public final class PromisesTest {
         Check.due("no 11th line behind the ;", Check.fault(x, ten), 70);
         String full = "draw 1 if level <" + " ".repeat(382) + "1";
         Check.due("400 bytes", Check.fault(x, full), NONE);
+        Check.due("400 things", Check.fault(x, "+".repeat(400)), 0);
+        Check.due("200 things, all right", Check.fault(x, "draw 1 if 1<1" + "+1".repeat(193)), NONE);
         Check.due("400 bytes that want more", Check.fault(x, full.substring(0, 399) + " "), 400);
     }
 
@@ -696,6 +705,9 @@ public final class PromisesTest {
         x.by(1, NONE);
         // farm 0 alone keeps the level: it has 10 each year, for ever
         Check.due("ten of 30", x.lost(2), 10);
+        Check.draw(x, "draw 1 if not broken");
+        x.by(0, 1);
+        Check.due("not broken", x.lost(2), 10);
         x.by(0, NONE);
         Check.due("all", x.lost(2), 30);
         x.years(2, 5);
@@ -856,6 +868,12 @@ public final class PromisesTest {
         x.by(0, 1);
         x.by(1, 1);
         Check.due("not answered it breaks at once", x.weak(), 451);
+        // two buckets are more than ten each year for ever if they are more than 10 / (1 - P / Q)
+        int[][] breaks = {{51, 451}, {50, 341}, {40, 231}, {30, 351}, {25, 121}, {20, 251}, {16, 131}, {15, 141},
+            {13, 151}, {12, NONE}};
+        for (int[] b : breaks) {
+            Check.due("weak if two bring " + b[0], answered(b[0]).weak(), b[1]);
+        }
         WellPumps y = single();
         Check.due("none", y.weak(), NONE);
         y.by(0, NONE);
@@ -1062,6 +1080,7 @@ public final class PromisesTest {
             Check.due("edge of cost " + cost, x.edge(0, 1), due[cost]);
             Check.due("none at TOP", x.edge(0, 2), NONE);
             Check.due("none at 0", x.edge(0, 0), NONE);
+            x.by(0, NONE);
             Check.due("the cost is as it was", x.answer(0, 1), cost < 5 ? 1 : 0);
         }
         for (int cost = 1; cost <= 9; cost++) {
@@ -1234,6 +1253,9 @@ public final class PromisesTest {
         Check.due("levels without wishes", x.count(8), 2);
         x.by(1, 0);
         Check.due("one that wishes is enough", x.count(8), 0);
+        x.by(0, 0);
+        x.by(1, 1);
+        Check.due("be it the first", x.count(8), 0);
         x.by(0, NONE);
         x.by(1, NONE);
         Check.due("no wishes", x.count(8), 3);
