@@ -883,7 +883,6 @@ public final class WellPumps {
         Told() {
             parts[1] = 1;
             ruleNumbers[SHARE] = 3;
-            Arrays.fill(goesBy, NONE);
         }
 
         void become(Told other) {

@@ -1080,7 +1080,6 @@ public final class PromisesTest {
             Check.due("edge of cost " + cost, x.edge(0, 1), due[cost]);
             Check.due("none at TOP", x.edge(0, 2), NONE);
             Check.due("none at 0", x.edge(0, 0), NONE);
-            x.by(0, NONE);
             Check.due("the cost is as it was", x.answer(0, 1), cost < 5 ? 1 : 0);
         }
         for (int cost = 1; cost <= 9; cost++) {
@@ -1187,9 +1186,21 @@ public final class PromisesTest {
         Check.feed(x, new byte[] {1, 1});
         x.row();
         x.years(1, 3);
+        x.by(1, NONE);
         x.image();
         String before = everything(x);
+        Check.feed(x, new byte[] {3, 0, 2, 2});
+        x.row();
+        Check.due("another row is another run", everything(x).equals(before), false);
+        x.back();
+        Check.due("the row as it was", everything(x), before);
+        x.well(3, NONE);
+        x.back();
+        Check.due("TOP as it was", x.count(7), 2);
         x.well(2, 0);
+        x.back();
+        Check.due("LEAK as it was", x.lasts(2), 2);
+        x.well(4, 0);
         x.rain(0, 0, 1, 1);
         x.years(4, 5);
         x.farm(9, 9, 9, 9);
@@ -1197,7 +1208,7 @@ public final class PromisesTest {
         x.force(2);
         Check.draw(x, "draw 3");
         x.by(0, 1);
-        x.by(1, NONE);
+        x.by(1, 1);
         x.broken(1, 1, 3);
         x.beside(4, 4, 3);
         x.row();
