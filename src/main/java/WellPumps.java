@@ -785,26 +785,25 @@ public final class WellPumps {
 
         private void readSum(int[] sum) {
             Arrays.fill(sum, 0);
-            addTo(sum);
-            for (int times = 0; thing == Thing.PLUS && times < TAPE_BYTES; times++) {
+            boolean more = true;
+            for (int times = 0; more && times < TAPE_BYTES; times++) {
+                if (thing == Thing.NUMBER) {
+                    sum[0] += numbers[at];
+                } else if (thing == Thing.TOP) {
+                    sum[0] += top;
+                } else if (thing == Thing.LEVEL) {
+                    sum[1]++;
+                } else if (thing == Thing.FARM) {
+                    sum[2]++;
+                } else {
+                    refuse();
+                }
                 step();
-                addTo(sum);
+                more = thing == Thing.PLUS;
+                if (more) {
+                    step();
+                }
             }
-        }
-
-        private void addTo(int[] sum) {
-            if (thing == Thing.NUMBER) {
-                sum[0] += numbers[at];
-            } else if (thing == Thing.TOP) {
-                sum[0] += top;
-            } else if (thing == Thing.LEVEL) {
-                sum[1]++;
-            } else if (thing == Thing.FARM) {
-                sum[2]++;
-            } else {
-                refuse();
-            }
-            step();
         }
 
         private static long whereLess(int[] less, int[] more) {
